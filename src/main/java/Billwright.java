@@ -460,7 +460,7 @@ public final class Billwright {
         return way == WAY_HALF_UP || way == WAY_HALF_DOWN || way == WAY_HALF_EVEN;
     }
 
-    /** The dividend over the divisor, which is more than 0 for all callers, cut by a way to a whole number. */
+    /** The dividend over the divisor, cut by a way to a whole number; 0 for a divisor that no caller has. */
     private static long quotient(long dividend, long divisor, int way) {
         if (divisor <= 0) {
             return 0;
@@ -473,7 +473,7 @@ public final class Billwright {
         return goesUp(dividend, floor, 2 * rest - divisor, way) ? floor + 1 : floor;
     }
 
-    /** What a dividend is more than its quotient to the floor, times the divisor. */
+    /** What a dividend is more than the divisor times its quotient to the floor; 0 for a divisor that no caller has. */
     private static long restOf(long dividend, long divisor) {
         return divisor <= 0 ? 0 : Math.floorMod(dividend, divisor);
     }

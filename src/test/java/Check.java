@@ -25,18 +25,26 @@ final class Check {
         }
     }
 
-    /** The very class is due, not one below it: the machine's own exceptions stand below some of them. */
+    /**
+     * The very class is due, not one below it, and thrown by the program itself: not by the machine, whose exceptions
+     * stand below some of them, and not by a list.
+     */
     void dueThrow(String what, Class<? extends RuntimeException> want, Call call) {
         long got;
         try {
             got = call.answer();
         } catch (RuntimeException e) {
-            if (e.getClass() != want) {
-                fail(what + " threw " + e + ", due is " + want.getSimpleName());
+            if (e.getClass() != want || !isThrownByProgram(e)) {
+                fail(what + " threw " + e + ", due is " + want.getSimpleName() + " of the program's own");
             }
             return;
         }
         fail(what + " answered " + got + ", due is " + want.getSimpleName());
+    }
+
+    static boolean isThrownByProgram(RuntimeException e) {
+        StackTraceElement[] trace = e.getStackTrace();
+        return trace.length > 0 && trace[0].getClassName().equals("Billwright");
     }
 
     void fail(String what) {

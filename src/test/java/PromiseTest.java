@@ -1,3 +1,8 @@
+import java.util.Arrays;
+import java.util.function.BiFunction;
+import java.util.function.Function;
+import java.util.function.IntFunction;
+
 /** A test for each promise of the document, by its number: ordinary inputs, edges and wrong inputs. */
 public final class PromiseTest {
     private static final Class<IndexOutOfBoundsException> INDEX = IndexOutOfBoundsException.class;
@@ -120,13 +125,13 @@ public final class PromiseTest {
         check.due(what + " changes nothing", before, x.checksum());
     }
 
-    private void dueNoSuchBill(String what, Billwright x, java.util.function.IntFunction<Check.Call> callOf) {
+    private void dueNoSuchBill(String what, Billwright x, IntFunction<Check.Call> callOf) {
         for (int bill : new int[] {-1, 3, Integer.MIN_VALUE, Integer.MAX_VALUE}) {
             dueRefused(what + ", bill " + bill, x, INDEX, callOf.apply(bill));
         }
     }
 
-    private void dueNoSuchLine(String what, Billwright x, java.util.function.IntFunction<Check.Call> callOf) {
+    private void dueNoSuchLine(String what, Billwright x, IntFunction<Check.Call> callOf) {
         for (int at : new int[] {-1, x.lines(0), Integer.MIN_VALUE, Integer.MAX_VALUE}) {
             dueRefused(what + ", line " + at, x, INDEX, callOf.apply(at));
         }
@@ -272,6 +277,8 @@ public final class PromiseTest {
         dueLines("move ahead", x, 0, 400000000L, 200000000L, 300000000L, 100000000L);
         check.due("move to where it stands", 0, x.move(0, 1, 1));
         dueLines("move to where it stands", x, 0, 400000000L, 200000000L, 300000000L, 100000000L);
+        check.due("move, in the middle", 2, x.move(0, 2, 1));
+        check.due("move, in the middle, back", 2, x.move(0, 1, 2));
         check.due("move, like lines too", 2, billOf(0, 5, 5).move(0, 1, 0));
         x.rate(0, 0, 5000);
         x.move(0, 0, 1);
@@ -355,6 +362,7 @@ public final class PromiseTest {
         check.due("copy: the same lines", true, x.isSame(0, 1));
         check.due("copy: the way", 'F', x.way(1));
         check.due("copy: the places", 1500, x.alone(1, 0));
+        check.due("copy: the places, in another money", 1000, x.bound(1, 1, 0, 0));
         x.rate(1, 0, 100);
         x.remove(1, 1);
         dueLines("copy: the other one stays", x, 0, 150000000L, 267500000L);
@@ -635,7 +643,8 @@ public final class PromiseTest {
         check.due("correct back: all as before", before, x.checksum());
         dueNoSuchBill("correct", x, bill -> () -> x.correct(bill, 0, 100000, 0, 0));
         dueNoSuchLine("correct", x, at -> () -> x.correct(0, at, 100000, 0, 0));
-        for (int[] wrong : new int[][] {{100000, 0, 0}, {-100000, 0, 0}, {0, 5, 0}, {0, -1, 0}, {0, 0, 100}, {0, 0, -100}}) {
+        int[][] outOfRange = {{100000, 0, 0}, {-100000, 0, 0}, {0, 5, 0}, {0, -1, 0}, {0, 0, 100}, {0, 0, -100}};
+        for (int[] wrong : outOfRange) {
             dueRefused("correct, out of range", x, ARGUMENT, () -> x.correct(0, 0, wrong[0], wrong[1], wrong[2]));
         }
         x.open(0);
@@ -727,7 +736,7 @@ public final class PromiseTest {
         dueWrongTax("redone, top", x, (rate, way) -> () -> x.redone(1, rate, 0, way));
     }
 
-    private void dueWrongTax(String what, Billwright x, java.util.function.BiFunction<Integer, Integer, Check.Call> callOf) {
+    private void dueWrongTax(String what, Billwright x, BiFunction<Integer, Integer, Check.Call> callOf) {
         for (int rate : new int[] {-1, 10000, Integer.MIN_VALUE, Integer.MAX_VALUE}) {
             dueRefused(what + ", rate " + rate, x, ARGUMENT, callOf.apply(rate, 0));
         }
@@ -736,13 +745,13 @@ public final class PromiseTest {
         }
     }
 
-    private void dueWrongMoney(String what, Billwright x, java.util.function.Function<int[], Check.Call> callOf) {
+    private void dueWrongMoney(String what, Billwright x, Function<int[], Check.Call> callOf) {
         int[][] wrong = {
             {0, 0, 0}, {1000, 0, 0}, {-1, 0, 0}, {1, -1, 0}, {1, 4, 0}, {1, 0, -1}, {1, 0, 4},
             {Integer.MIN_VALUE, 0, 0}, {1, Integer.MAX_VALUE, 0}, {1, 0, Integer.MIN_VALUE},
         };
         for (int[] money : wrong) {
-            dueRefused(what + ", money " + java.util.Arrays.toString(money), x, ARGUMENT, callOf.apply(money));
+            dueRefused(what + ", money " + Arrays.toString(money), x, ARGUMENT, callOf.apply(money));
         }
     }
 
@@ -884,7 +893,9 @@ public final class PromiseTest {
                 closeAndCorrect(x, 1, 2);
             }
         }
-        Billwright x = new Billwright();
+        Billwright x = billCutBy(0, HALF_EVEN, 1, 5, 10);
+        check.due("isSound, carried off by one by halves: 0.5 is told as 0, 1.0 as 2", 2, x.carried(0, 1));
+        check.due("isSound, carried off by one by halves", true, x.isSound(0));
         dueNoSuchBill("isSound", x, bill -> () -> x.isSound(bill) ? 1 : 0);
     }
 

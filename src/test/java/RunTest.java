@@ -129,6 +129,7 @@ public final class RunTest {
             answer = step.got.answer();
         } catch (RuntimeException e) {
             exception = e.getClass().getSimpleName();
+            check.due(text + " throws by itself", true, Check.isThrownByProgram(e));
         }
         check.dueText(text + " throws", step.exception, exception);
         if (step.exception.isEmpty() && exception.isEmpty()) {

@@ -1,4 +1,4 @@
-/** What the theorem of the document says, looked at from outside, on many bills and amounts; the same ones each time. */
+/** What the theorem of the document says, looked at from outside, on many bills and amounts; each time the same. */
 public final class TheoremTest {
     private static final int BILLS = 4000;
     private static final int UP = 0;
@@ -47,7 +47,8 @@ public final class TheoremTest {
     private void addAnyLine(Billwright x, int bill) {
         int at = x.lines(bill);
         boolean coarse = next(0, 2) != 0;
-        x.line(bill, at, coarse ? next(-30, 30) : next(-99999, 99999), next(0, 4), coarse ? next(-2, 2) : next(-99, 99));
+        int price = coarse ? next(-30, 30) : next(-99999, 99999);
+        x.line(bill, at, price, next(0, 4), coarse ? next(-2, 2) : next(-99, 99));
         x.rate(bill, at, coarse ? 500 * next(-2, 4) : next(-5000, 9999));
     }
 
