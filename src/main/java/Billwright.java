@@ -647,10 +647,6 @@ public final class Billwright {
             return quotient(lines.get(at).exact, least, way);
         }
 
-        private long floorAt(int at) {
-            return quotient(lines.get(at).exact, least, WAY_FLOOR);
-        }
-
         int rankAt(int at) {
             long rest = restOf(lines.get(at).exact, least);
             int ahead = 0;
@@ -668,13 +664,13 @@ public final class Billwright {
             long floors = 0;
             for (int i = 0; i < lines.size(); i++) {
                 whole += lines.get(i).exact;
-                floors += floorAt(i);
+                floors += quotient(lines.get(i).exact, least, WAY_FLOOR);
             }
             return (int) (quotient(whole, least, way) - floors);
         }
 
         long byRestsAt(int at) {
-            long floor = floorAt(at);
+            long floor = quotient(lines.get(at).exact, least, WAY_FLOOR);
             return rankAt(at) < countRaised() ? floor + 1 : floor;
         }
 

@@ -1,0 +1,86 @@
+import java.io.IOException;
+import java.nio.file.Files;
+import java.nio.file.Path;
+import java.util.ArrayList;
+import java.util.HashSet;
+import java.util.LinkedHashMap;
+import java.util.List;
+import java.util.Map;
+import java.util.Set;
+
+/**
+ * The document, section by section, and which of its sentences have been tested. A paragraph or a point of a list is
+ * a block, and stands on one line here.
+ */
+final class Document {
+    private static final Path PLACE = Path.of("..", "shared", "DOC.md");
+
+    private final Map<String, List<String>> sections = new LinkedHashMap<>();
+    private final Set<String> tested = new HashSet<>();
+
+    /** Without sections if there is no document where the project stands. */
+    static Document read() {
+        Document document = new Document();
+        if (!Files.isReadable(PLACE)) {
+            return document;
+        }
+        try {
+            document.take(Files.readAllLines(PLACE));
+        } catch (IOException e) {
+            throw new IllegalStateException("the document is there, but can't be read", e);
+        }
+        return document;
+    }
+
+    private void take(List<String> lines) {
+        List<String> blocks = new ArrayList<>();
+        boolean goesOn = false;
+        for (String line : lines) {
+            if (line.startsWith("#")) {
+                blocks = new ArrayList<>();
+                sections.put(line.replaceFirst("#+ ", ""), blocks);
+                goesOn = false;
+            } else if (goesOn && !line.isBlank() && !line.startsWith("- ")) {
+                int last = blocks.size() - 1;
+                blocks.set(last, blocks.get(last) + " " + line.strip());
+            } else if (!line.isBlank()) {
+                blocks.add(line.strip());
+                goesOn = true;
+            } else {
+                goesOn = false;
+            }
+        }
+    }
+
+    boolean isThere() {
+        return !sections.isEmpty();
+    }
+
+    /** Looks whether the section whose heading begins so says this, and keeps in mind that this is tested. */
+    boolean isSaid(String heading, String text) {
+        boolean isSaid = false;
+        for (String section : sections.keySet()) {
+            for (String block : sections.get(section)) {
+                if (section.startsWith(heading) && block.contains(text)) {
+                    tested.add(section + ": " + block);
+                    isSaid = true;
+                }
+            }
+        }
+        return isSaid;
+    }
+
+    /** What the promises say of ranges, answers and exceptions, as far as it has not been tested. */
+    List<String> untested() {
+        List<String> untested = new ArrayList<>();
+        for (String section : sections.keySet()) {
+            for (String block : sections.get(section)) {
+                boolean isDue = block.startsWith("- ") || block.startsWith("Returns ") || block.startsWith("Throws ");
+                if (section.startsWith("Promise ") && isDue && !tested.contains(section + ": " + block)) {
+                    untested.add(section + ": " + block);
+                }
+            }
+        }
+        return untested;
+    }
+}
