@@ -147,6 +147,15 @@ final class AmountBoundaries extends Boundaries {
                 }
             }
         }
+        for (int sign = -1; sign <= 1; sign += 2) {
+            // 1.0001 less 1, each of ten-thousandths, is the least that there can be.
+            addAt(x, 0, 1, 1, 4, sign);
+            add(x, 0, 4, -sign);
+            due("is the least", sign, x.whole(0));
+            due("the least by " + way, sign * CUT[sign > 0 ? way : mirrored(way)][1], x.total(0));
+            x.remove(0, 0);
+            x.remove(0, 0);
+        }
     }
 
     private void alone() {

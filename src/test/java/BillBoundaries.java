@@ -576,6 +576,7 @@ final class BillBoundaries extends Boundaries {
             fillWith(x, 1, 0, 7);
             due("nine for nine", 9, x.copy(0, 1));
             due("the places", 112, x.alone(1, 0));
+            due("the places, in another money", 1000, x.bound(1, 1, 0, 0));
             due("the way", 'U', x.way(1));
             due("the lines", true, x.isSame(0, 1));
             refused("told amounts", x, STATE, () -> x.told(1, 0));

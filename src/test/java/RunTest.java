@@ -5,8 +5,9 @@ import java.math.BigDecimal;
  * every exception and, after every call, the checksum have to be the same. The runs are the same each time.
  */
 public final class RunTest {
-    private static final int RUNS = 400;
-    private static final int CALLS = 512;
+    private static final int RUNS = 800;
+    /** With the checksum behind each of them they are the 512 that an object is promised for. */
+    private static final int CALLS = 256;
     private static final int KINDS = 36;
     private static final String INDEX = "IndexOutOfBoundsException";
     private static final String ARGUMENT = "IllegalArgumentException";

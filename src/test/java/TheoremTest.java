@@ -73,20 +73,28 @@ public final class TheoremTest {
         check.due(what + "by rests adds up", x.total(0), byRests);
         check.due(what + "carried adds up", x.total(0), carried);
         check.due(what + "is sound", true, x.isSound(0));
-        check.due(what + "by rests is off by the least", leastOff(x, 0, x.total(0), least), x.off(0, 1));
+        check.due(what + "by rests is off by the least", leastOff(exacts(x), 0, x.total(0), least), x.off(0, 1));
         checkCarriedStays(what, x);
     }
 
+    private static long[] exacts(Billwright x) {
+        long[] exacts = new long[x.lines(0)];
+        for (int i = 0; i < exacts.length; i++) {
+            exacts[i] = x.exact(0, i);
+        }
+        return exacts;
+    }
+
     /** Of all rows that add up to what is left, from a line on, the one that is off by the least. */
-    private static long leastOff(Billwright x, int from, long left, long least) {
-        if (from == x.lines(0)) {
+    private static long leastOff(long[] exacts, int from, long left, long least) {
+        if (from == exacts.length) {
             return left == 0 ? 0 : Long.MAX_VALUE / 2;
         }
-        long floor = Math.floorDiv(x.exact(0, from), least);
+        long floor = Math.floorDiv(exacts[from], least);
         long best = Long.MAX_VALUE / 2;
         for (long amount = floor - 2; amount <= floor + 3; amount++) {
-            long off = Math.abs(amount * least - x.exact(0, from));
-            best = Math.min(best, off + leastOff(x, from + 1, left - amount, least));
+            long off = Math.abs(amount * least - exacts[from]);
+            best = Math.min(best, off + leastOff(exacts, from + 1, left - amount, least));
         }
         return best;
     }
@@ -159,21 +167,21 @@ public final class TheoremTest {
     }
 
     private void checkTaxes() {
-        Billwright x = new Billwright();
         int[] rates = {0, 1, 500, 700, 1900, 2000, 3333, 5000, 9998, 9999};
         for (int rate : rates) {
             for (int i = 0; i < 60; i++) {
                 int amount = i < 40 ? i - 20 : next(Integer.MIN_VALUE, Integer.MAX_VALUE);
                 for (int one = UP; one <= HALF_EVEN; one++) {
                     for (int two = UP; two <= HALF_EVEN; two++) {
-                        checkTax(x, amount, rate, one, two);
+                        checkTax(amount, rate, one, two);
                     }
                 }
             }
         }
     }
 
-    private void checkTax(Billwright x, int amount, int rate, int one, int two) {
+    private void checkTax(int amount, int rate, int one, int two) {
+        Billwright x = new Billwright();
         String what = amount + " at " + rate + " by " + one + " and " + two + ", ";
         boolean halves = one >= HALF_UP && two >= HALF_UP;
         boolean against = (one == CEILING && two == FLOOR) || (one == FLOOR && two == CEILING)
