@@ -1,5 +1,5 @@
 /** The boundary cases of the promises 13 to 22: amounts. */
-final class AmountBoundaries extends Boundaries {
+final class AmountBoundaries extends Sentences {
     /** Amounts around 0, around half of 1 and around 1, in hundred-millionths, as LINES tells how to make them. */
     private static final long[] AROUND = {0, 5000, 49999998, 50000000, 50000001, 99999999, 100000000, 100000002};
     /** For each of AROUND a rate and a price with four digits behind the point. */

@@ -1,5 +1,5 @@
 /** The boundary cases of the promises 1 to 12: bills. */
-final class BillBoundaries extends Boundaries {
+final class BillBoundaries extends Sentences {
     BillBoundaries(Check check, Document document) {
         super(check, document);
     }

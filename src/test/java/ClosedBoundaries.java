@@ -1,5 +1,5 @@
 /** The boundary cases of the promises 23 to 26: closed bills. */
-final class ClosedBoundaries extends Boundaries {
+final class ClosedBoundaries extends Sentences {
     ClosedBoundaries(Check check, Document document) {
         super(check, document);
     }

@@ -10,7 +10,7 @@ import java.util.Set;
 
 /**
  * The document, section by section, and which of its sentences have been tested. A paragraph or a point of a list is
- * a block, and stands on one line here.
+ * a block, and stands on one line here. A sentence ends with a point, a semicolon or a colon; a point of a list is one.
  */
 final class Document {
     private static final Path PLACE = Path.of("..", "shared", "DOC.md");
@@ -61,8 +61,9 @@ final class Document {
         boolean isSaid = false;
         for (String section : sections.keySet()) {
             for (String block : sections.get(section)) {
-                if (section.startsWith(heading) && block.contains(text)) {
-                    tested.add(section + ": " + block);
+                int start = block.indexOf(text);
+                if (section.startsWith(heading) && start >= 0) {
+                    markTested(section, block, start, start + text.length());
                     isSaid = true;
                 }
             }
@@ -70,14 +71,41 @@ final class Document {
         return isSaid;
     }
 
-    /** What the promises say of ranges, answers and exceptions, as far as it has not been tested. */
+    private void markTested(String section, String block, int start, int end) {
+        int from = 0;
+        for (String sentence : sentencesOf(block)) {
+            int to = from + sentence.length();
+            if (from < end && to > start) {
+                tested.add(section + ": " + sentence);
+            }
+            from = to + " ".length();
+        }
+    }
+
+    private static String[] sentencesOf(String block) {
+        return block.startsWith("- ") ? new String[] {block} : block.split("(?<=[.;:]) ");
+    }
+
+    /** The sentences of the section whose heading begins so. */
+    List<String> sentences(String heading) {
+        List<String> sentences = new ArrayList<>();
+        for (String section : sections.keySet()) {
+            for (String block : sections.get(section)) {
+                if (section.startsWith(heading)) {
+                    sentences.addAll(List.of(sentencesOf(block)));
+                }
+            }
+        }
+        return sentences;
+    }
+
+    /** All sentences, from the first line on, that have not been tested. */
     List<String> untested() {
         List<String> untested = new ArrayList<>();
         for (String section : sections.keySet()) {
-            for (String block : sections.get(section)) {
-                boolean isDue = block.startsWith("- ") || block.startsWith("Returns ") || block.startsWith("Throws ");
-                if (section.startsWith("Promise ") && isDue && !tested.contains(section + ": " + block)) {
-                    untested.add(section + ": " + block);
+            for (String sentence : sentences(section)) {
+                if (!tested.contains(section + ": " + sentence)) {
+                    untested.add(section + ": " + sentence);
                 }
             }
         }

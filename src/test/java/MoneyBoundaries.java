@@ -1,5 +1,5 @@
 /** The boundary cases of the promises 31 to 33: another money. */
-final class MoneyBoundaries extends Boundaries {
+final class MoneyBoundaries extends Sentences {
     /** Prices, digits and places that are out of range, one at a time and all at once. */
     private static final int[][] WRONG = {{1000, 0, 0}, {1, 4, 0}, {1, 0, 4}, {0, -1, -1}};
 

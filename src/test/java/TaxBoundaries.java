@@ -1,5 +1,5 @@
 /** The boundary cases of the promises 27 to 30: taxes. */
-final class TaxBoundaries extends Boundaries {
+final class TaxBoundaries extends Sentences {
     /** 5 and 50 % are 7.5, which is half way, and so is -5 below 0, by each way from 0 to 6. */
     private static final int[] HALF_ON_TOP = {8, 7, 8, 7, 8, 7, 8};
     private static final int[] HALF_ON_TOP_BELOW = {-8, -7, -7, -8, -8, -7, -8};

@@ -1,5 +1,7 @@
+import java.util.Arrays;
+
 /** The boundary cases that the document tells outside of its promises: most of all in its terms, and in the theorem. */
-final class TermsBoundaries extends Boundaries {
+final class TermsBoundaries extends Sentences {
     private static final int MOST_CALLS = 512;
     /** The least money by a bill's places, in hundred-millionths. */
     private static final long[] LEAST = {100000000L, 10000000L, 1000000L, 100000L};
@@ -79,11 +81,38 @@ final class TermsBoundaries extends Boundaries {
                 due(what + " by nothing, line " + i, true, off == 0 || y.exact(0, i) % least != 0);
             }
         }));
-        holds("none is off by less, all lines taken together.", x -> ofAllBills((y, what, way, least) -> {
-            long off = y.off(0, BY_RESTS);
-            due(what + " than by carrying", true, off <= y.off(0, CARRIED));
-            due(what + " than alone, if those add up", true, y.gap(0) != 0 || off <= y.off(0, ALONE));
+        holds("and of all rows of amounts, whole numbers of the least money, that add up to the total, none is off by"
+                + " less, all lines taken together.", x -> ofAllBills((y, what, way, least) -> {
+            due(what, leastOff(y, least), y.off(0, BY_RESTS));
         }));
+    }
+
+    /**
+     * By how much those rows are off that are off by the least: worked out line by line, for each number of the least
+     * money by which the lines so far may be told more than they are, cut to the floor.
+     */
+    private static long leastOff(Billwright x, long least) {
+        int middle = 50;
+        long none = Long.MAX_VALUE / 2;
+        long[] best = new long[2 * middle + 1];
+        Arrays.fill(best, none);
+        best[middle] = 0;
+        long floors = 0;
+        for (int i = 0; i < x.lines(0); i++) {
+            long exact = x.exact(0, i);
+            long floor = Math.floorDiv(exact, least);
+            floors += floor;
+            long[] next = new long[best.length];
+            Arrays.fill(next, none);
+            for (int more = -3; more <= 4; more++) {
+                long off = Math.abs((floor + more) * least - exact);
+                for (int sum = 4; sum < best.length - 4; sum++) {
+                    next[sum + more] = Math.min(next[sum + more], best[sum] + off);
+                }
+            }
+            best = next;
+        }
+        return best[(int) (x.total(0) - floors) + middle];
     }
 
     private void theoremOfCarrying() {

@@ -1,7 +1,7 @@
 import java.math.BigInteger;
 
 /** The boundary cases of the promises 34 to 37: all of them. */
-final class TogetherBoundaries extends Boundaries {
+final class TogetherBoundaries extends Sentences {
     TogetherBoundaries(Check check, Document document) {
         super(check, document);
     }

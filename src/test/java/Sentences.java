@@ -1,11 +1,12 @@
 import java.util.Arrays;
+import java.util.List;
 import java.util.function.Consumer;
 
 /**
- * What the tests of boundary cases share: each stands under the very sentence of the document that it holds the
+ * What the tests of {@link DocumentTest} share: each stands under the very sentence of the document that it holds the
  * program to, and has an object of its own.
  */
-abstract class Boundaries {
+abstract class Sentences {
     static final Class<IndexOutOfBoundsException> INDEX = IndexOutOfBoundsException.class;
     static final Class<IllegalArgumentException> ARGUMENT = IllegalArgumentException.class;
     static final Class<IllegalStateException> STATE = IllegalStateException.class;
@@ -34,7 +35,7 @@ abstract class Boundaries {
     private String section = "";
     private String sentence = "";
 
-    Boundaries(Check check, Document document) {
+    Sentences(Check check, Document document) {
         this.check = check;
         this.document = document;
     }
@@ -60,11 +61,20 @@ abstract class Boundaries {
         section = heading;
     }
 
-    final void holds(String text, Consumer<Billwright> test) {
+    final List<String> sentences(String heading) {
+        return document.sentences(heading);
+    }
+
+    /** Of a sentence that asks nothing of the program there is no more to test than that the document says it. */
+    final void says(String text) {
         sentence = text;
         if (!document.isSaid(section, text) && document.isThere()) {
             check.fail(where("this") + "is not what the document says");
         }
+    }
+
+    final void holds(String text, Consumer<Billwright> test) {
+        says(text);
         try {
             test.accept(new Billwright());
         } catch (RuntimeException e) {

@@ -1,12 +1,12 @@
-/** Runs the tests of the boundary cases, and looks whether the promises have any that is left without a test. */
-public final class BoundaryTest {
-    private BoundaryTest() {
+/** Runs the tests that stand under sentences of the document, and looks whether any sentence is left without one. */
+public final class DocumentTest {
+    private DocumentTest() {
     }
 
     public static void main(String[] args) {
         Check check = new Check();
         Document document = Document.read();
-        Boundaries[] parts = {
+        Sentences[] parts = {
             new BillBoundaries(check, document),
             new AmountBoundaries(check, document),
             new ClosedBoundaries(check, document),
@@ -14,8 +14,12 @@ public final class BoundaryTest {
             new MoneyBoundaries(check, document),
             new TogetherBoundaries(check, document),
             new TermsBoundaries(check, document),
+            new FaceSentences(check, document),
+            new TermsSentences(check, document),
+            new PromiseSentences(check, document),
+            new TogetherSentences(check, document),
         };
-        for (Boundaries part : parts) {
+        for (Sentences part : parts) {
             part.run();
         }
         for (String sentence : document.untested()) {
