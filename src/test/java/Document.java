@@ -2,11 +2,11 @@ import java.io.IOException;
 import java.nio.file.Files;
 import java.nio.file.Path;
 import java.util.ArrayList;
-import java.util.HashSet;
+import java.util.BitSet;
+import java.util.HashMap;
 import java.util.LinkedHashMap;
 import java.util.List;
 import java.util.Map;
-import java.util.Set;
 
 /**
  * The document, section by section, and which of its sentences have been tested. A paragraph or a point of a list is
@@ -16,7 +16,8 @@ final class Document {
     private static final Path PLACE = Path.of("..", "shared", "DOC.md");
 
     private final Map<String, List<String>> sections = new LinkedHashMap<>();
-    private final Set<String> tested = new HashSet<>();
+    /** For each block, with its section ahead of it, the letters that some test quotes. */
+    private final Map<String, BitSet> quoted = new HashMap<>();
 
     /** Without sections if there is no document where the project stands. */
     static Document read() {
@@ -63,7 +64,7 @@ final class Document {
             for (String block : sections.get(section)) {
                 int start = block.indexOf(text);
                 if (section.startsWith(heading) && start >= 0) {
-                    markTested(section, block, start, start + text.length());
+                    quotedOf(section, block).set(start, start + text.length());
                     isSaid = true;
                 }
             }
@@ -71,15 +72,8 @@ final class Document {
         return isSaid;
     }
 
-    private void markTested(String section, String block, int start, int end) {
-        int from = 0;
-        for (String sentence : sentencesOf(block)) {
-            int to = from + sentence.length();
-            if (from < end && to > start) {
-                tested.add(section + ": " + sentence);
-            }
-            from = to + " ".length();
-        }
+    private BitSet quotedOf(String section, String block) {
+        return quoted.computeIfAbsent(section + ": " + block, key -> new BitSet());
     }
 
     private static String[] sentencesOf(String block) {
@@ -99,16 +93,31 @@ final class Document {
         return sentences;
     }
 
-    /** All sentences, from the first line on, that have not been tested. */
+    /** All sentences, from the first line on, of which a word is in no quotation. */
     List<String> untested() {
         List<String> untested = new ArrayList<>();
         for (String section : sections.keySet()) {
-            for (String sentence : sentences(section)) {
-                if (!tested.contains(section + ": " + sentence)) {
-                    untested.add(section + ": " + sentence);
+            for (String block : sections.get(section)) {
+                int from = 0;
+                for (String sentence : sentencesOf(block)) {
+                    int to = from + sentence.length();
+                    if (hasUnquoted(block, quotedOf(section, block), from, to)) {
+                        untested.add(section + ": " + sentence);
+                    }
+                    from = to + " ".length();
                 }
             }
         }
         return untested;
+    }
+
+    /** The signs that mark up the text need no quotation. */
+    private static boolean hasUnquoted(String block, BitSet quoted, int from, int to) {
+        for (int i = from; i < to; i++) {
+            if (Character.isLetterOrDigit(block.charAt(i)) && !quoted.get(i)) {
+                return true;
+            }
+        }
+        return false;
     }
 }

@@ -30,7 +30,7 @@ final class FaceSentences extends Sentences {
 
     private void face(String program) {
         section("The public face");
-        holds("public final class Billwright { public Billwright();", x -> {
+        holds("```java public final class Billwright { public Billwright();", x -> {
             due("the class", true, program.contains("public final class Billwright { "));
             due("the constructor", true, program.contains(" public Billwright() { "));
         });
